@@ -76,7 +76,7 @@ public final class InTheGarden {
 
     private static final int FORM_FAULT = -1000;
     private static final int SENSE_FAULT = -2000;
-    private static final int NEVER = Integer.MAX_VALUE;
+    private static final int NEVER = 0x7fffffff;
     private static final int WITHOUT_SIGN = 0x7fffffff;
 
     private final World now = new World();
@@ -411,7 +411,20 @@ public final class InTheGarden {
         if (i >= k) {
             return NONE;
         }
-        int most = tryAllOrders(k, m, z);
+        trial.copyFrom(now.told);
+        orders.begin(k);
+        int most = -1;
+        for (int tried = 0; tried < MOST_GAME_ORDERS; tried++) {
+            trial.takeRow(orders.row, k);
+            int found = findsOfTrial(m, z);
+            if (found > most) {
+                most = found;
+                System.arraycopy(orders.row, 0, bestPlaces, 0, MOST_GAME_PLACES);
+            }
+            if (!orders.advance()) {
+                break;
+            }
+        }
         return i < 0 ? most : bestPlaces[i];
     }
 
@@ -530,25 +543,6 @@ public final class InTheGarden {
             }
         }
         return true;
-    }
-
-    /** Leaves the best order in bestPlaces and answers how many it finds. */
-    private int tryAllOrders(int k, int m, int z) {
-        trial.copyFrom(now.told);
-        orders.begin(k);
-        int most = -1;
-        for (int tried = 0; tried < MOST_GAME_ORDERS; tried++) {
-            trial.takeRow(orders.row, k);
-            int found = findsOfTrial(m, z);
-            if (found > most) {
-                most = found;
-                System.arraycopy(orders.row, 0, bestPlaces, 0, MOST_GAME_PLACES);
-            }
-            if (!orders.advance()) {
-                break;
-            }
-        }
-        return most;
     }
 
     private int findsOfTrial(int m, int z) {

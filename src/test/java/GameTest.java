@@ -2,6 +2,8 @@
 public final class GameTest {
     public static void main(String[] args) {
         game();
+        gameOfThree();
+        gameOfFour();
         gameRefusals();
         taken();
         summer();
@@ -51,6 +53,51 @@ public final class GameTest {
         Check.due("21 line, high of 3, below", 1, line.game(2, 3, 1, 1));
     }
 
+    private static void fraction(InTheGarden x, int k, int n, int what, int above, int below) {
+        Check.due("21 above, of " + k + ", " + n + ", " + what, above, x.game(k, n, what, 0));
+        Check.due("21 below, of " + k + ", " + n + ", " + what, below, x.game(k, n, what, 1));
+    }
+
+    /**
+     * TELLS of 1, 2, 3 by orders: 123: 2 7 14; 132: 2 15 8; 213: 8 3 14; 231: 16 3 10; 312: 10 15 4;
+     * 321: 16 11 4. Taken: 1 123; 3 123; 3 132; 3 132; 2 312; 2 312; 2 321; 2 231.
+     */
+    private static void gameOfThree() {
+        InTheGarden x = Check.garden("pp100;pp100;pp100;w01,2;w02,3;w03,4;");
+        fraction(x, 3, 1, 0, 2, 1);
+        fraction(x, 3, 1, 1, 14, 1);
+        fraction(x, 3, 4, 0, 11, 2);
+        fraction(x, 3, 4, 1, 11, 1);
+        fraction(x, 3, 5, 0, 37, 5);
+        fraction(x, 3, 5, 1, 59, 5);
+        fraction(x, 3, 6, 0, 25, 3);
+        fraction(x, 3, 6, 1, 37, 3);
+        fraction(x, 3, 7, 0, 55, 7);
+        fraction(x, 3, 7, 1, 85, 7);
+        fraction(x, 3, 8, 0, 29, 4);
+        fraction(x, 3, 8, 1, 11, 1);
+        Check.due("22 one", 1, x.taken(3, 8, 1));
+        Check.due("22 two", 4, x.taken(3, 8, 2));
+        Check.due("22 three", 3, x.taken(3, 8, 3));
+    }
+
+    /** All alike far (5, 15, 25, 35). Taken: 1 1234; 4 1234; 4 1423; 3 (a tie with 4) 4123. */
+    private static void gameOfFour() {
+        InTheGarden x = Check.garden("pp100;pp100;pp100;pp100;w01,5;w02,5;w03,5;w04,5;");
+        fraction(x, 4, 1, 0, 5, 1);
+        fraction(x, 4, 1, 1, 35, 1);
+        fraction(x, 4, 2, 0, 10, 1);
+        fraction(x, 4, 2, 1, 35, 1);
+        fraction(x, 4, 3, 0, 25, 3);
+        fraction(x, 4, 3, 1, 85, 3);
+        fraction(x, 4, 4, 0, 25, 2);
+        fraction(x, 4, 4, 1, 30, 1);
+        int[] due = {1, 0, 1, 2};
+        for (int place = 1; place <= 4; place++) {
+            Check.due("22 taken " + place, due[place - 1], x.taken(4, 4, place));
+        }
+    }
+
     private static void gameRefusals() {
         InTheGarden x = star();
         Check.due("21 other what", -2, x.game(0, 0, 2, 0));
@@ -66,6 +113,8 @@ public final class GameTest {
         Check.due("21 can not come", -3, x.game(3, 1, 0, 0));
         Check.tell(x, "w23,1;");
         Check.due("21 can come", 3, x.game(3, 1, 0, 0));
+        InTheGarden y = Check.garden("pp100;pp100;w02,3;");
+        Check.due("21 the first can not be come to", -3, y.game(2, 1, 0, 0));
         Check.due("refused -2", 4, x.count(12));
         Check.due("refused -3", 2, x.count(13));
         Check.due("refused -4", 2, x.count(14));
@@ -127,6 +176,7 @@ public final class GameTest {
         Check.due("24 one alone", 8, x.odds(4, 3, 0));
         Check.due("24 one alone, below", 125, x.odds(4, 3, 1));
         Check.due("24 at second 0", 3, x.odds(5, 1, 0));
+        Check.due("24 at second 0, below", 5, x.odds(5, 1, 1));
         x.times(6, 4);
         Check.due("24 known", 3, x.odds(6, 1, 0));
         Check.due("24 known, below", 100, x.odds(6, 2, 1));
@@ -155,6 +205,12 @@ public final class GameTest {
         Check.due("25 k above", -6, x.bestOrder(5, 1, 0, 0));
         Check.due("25 m above", -6, x.bestOrder(3, 6, 0, 0));
         Check.due("25 no such places", -3, x.bestOrder(3, 1, 0, 7));
+        InTheGarden four = Check.garden("pp000;pp000;pp000;pp100;w01,20;w02,20;w03,20;w04,5;h9,5;");
+        int[] due = {4, 1, 2, 3, -9};
+        for (int i = 0; i < 5; i++) {
+            Check.due("25 of four, " + i, due[i], four.bestOrder(4, 1, 0, i));
+        }
+        Check.due("25 of four, finds", 1, four.bestOrder(4, 1, 0, -1));
         InTheGarden y = Check.garden("pp100;pp100;w01,5;w02,5;h9,5;");
         y.set(2, 60);
         Check.due("25 alike: the first", 1, y.bestOrder(2, 1, 0, 0));
@@ -197,6 +253,7 @@ public final class GameTest {
         Check.due("26 outer", 2, y.bestRule(5, 3));
         y.order(1, 2);
         Check.due("26 of several the least", 0, y.bestRule(5, 3));
+        Check.due("26 of one", 0, y.bestRule(1, 3));
         Check.due("26 below", -4, y.bestRule(0, 0));
         Check.due("26 above", -6, y.bestRule(6, 0));
         for (int z = 0; z < 30; z++) {

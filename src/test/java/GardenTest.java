@@ -6,6 +6,7 @@ public final class GardenTest {
         gardenAnswers();
         gardenFaultsOfForm();
         gardenFaultsOfSense();
+        gardenOfALaterText();
         gardenRoom();
         gardenComesToWhatThereIs();
         place();
@@ -146,6 +147,17 @@ public final class GardenTest {
         sense("h16,5;", 0);
         sense("h9,0;", 0);
         sense("h9,1;h9,9;h99,9;h1,1;", 10);
+    }
+
+    /** What an earlier, longer text left behind must not be read. */
+    private static void gardenOfALaterText() {
+        InTheGarden x = Check.garden("pp100;pp100;h9,5;");
+        Check.due("3 the end", -1005, Check.tell(x, "pp100"));
+        Check.due("3 the end of the second", -1008, Check.tell(x, "pp100;pp"));
+        Check.due("3 empty", -1000, x.garden());
+        Check.due("3 a shorter one", 1, Check.tell(x, "h9,5;"));
+        Check.due("3 places", 3, x.count(0));
+        Check.due("3 hiders", 2, x.count(2));
     }
 
     private static void gardenRoom() {

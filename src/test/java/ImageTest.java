@@ -97,6 +97,8 @@ public final class ImageTest {
         Check.due("30 look", 1, x.set(6, 1));
         Check.due("30 where", 1, x.of(0, 0));
         Check.due("30 when", 9, x.of(0, 2));
+        Check.due("30 how", 0, x.of(0, 1));
+        Check.due("30 where the last hid", 0, x.of(2, 0));
         Check.due("30 found", 2, x.found(0));
         judged(x, -9, 2, 1, 0);
         Check.due("30 a round as then", 3, x.mind(0, 0));
@@ -125,6 +127,18 @@ public final class ImageTest {
         Check.due("29 taken anew", 3, x.image());
         Check.due("30 on from the new one", 3, x.on());
         Check.due("30 and its round", 1, x.of(0, 0));
+        Check.due("30 as it ended", 2, x.of(0, 1));
+        x.set(0, 1);
+        x.round(0);
+        Check.due("30 ended otherwise", 0, x.of(0, 1));
+        x.on();
+        Check.due("30 as it ended again", 2, x.of(0, 1));
+        Check.due("30 when it ended", 300, x.of(0, 2));
+        Check.tell(x, "h3,3;");
+        x.round(0);
+        x.on();
+        Check.tell(x, "h4,4;");
+        Check.due("30 one that came behind that round", -3, x.of(1, 0));
     }
 
     private static void imageHoldsNoMore() {

@@ -15,6 +15,8 @@ public final class RoundTest {
         patience();
         highOnesLeaveLate();
         timesGrow();
+        timesGrowAnew();
+        fullGarden();
         mindChangesNothing();
         refusals();
         Check.end("RoundTest");
@@ -326,6 +328,36 @@ public final class RoundTest {
         x.round(0);
         Check.due("13 held to 99", 99, x.place(1, 3));
         Check.due("13 all times", 99, x.count(3));
+    }
+
+    private static void timesGrowAnew() {
+        InTheGarden x = Check.garden("pk900;w01,10;h10,5;");
+        x.order(1, 1);
+        x.set(2, 60);
+        x.round(0);
+        Check.due("13 once", 1, x.place(1, 3));
+        x.order(0, 0);
+        x.round(0);
+        Check.due("13 no more, as none was found", 1, x.place(1, 3));
+        x.set(0, 1);
+        x.round(0);
+        Check.due("13 nor found at the base", 1, x.count(3));
+    }
+
+    private static void fullGarden() {
+        InTheGarden x = Check.garden("pp100;pp100;pp100;pp100;pp100;pp100;pp100;",
+                "w01,1;w02,1;w03,1;w04,1;w05,1;w06,1;w07,1;", "h9,5;h9,5;h9,5;h9,5;h9,5;h9,5;h9,5;h9,5;");
+        x.set(2, 60);
+        x.set(6, 0);
+        x.order(8, 17654321);
+        Check.due("13 all eight", 8, x.round(0));
+        Check.due("16 who had no place", 7, x.found(0));
+        for (int h = 0; h < 7; h++) {
+            ended(x, h, h + 1, 0, 2 * h + 1);
+            Check.due("16 in order", h, x.found(h + 1));
+        }
+        Check.due("16 no ninth", -9, x.found(8));
+        Check.due("14 last second", 13, x.mind(0, 3));
     }
 
     private static void mindChangesNothing() {

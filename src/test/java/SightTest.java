@@ -65,6 +65,11 @@ public final class SightTest {
         Check.due("19 not one that can not", 15, x.allSeen());
         InTheGarden line = Check.garden("pp100;pp100;pp100;w12,3;w01,3;w23,3;w03,20;");
         Check.due("19 by a line", 9, line.allSeen());
+        InTheGarden full = Check.garden("pp100;pp100;pp100;pp100;pp100;pp100;pp100;",
+                "w01,1;w02,2;w03,3;w04,4;w05,5;w06,6;w07,7;");
+        // Each twice but the last, which is the farthest.
+        Check.due("19 all seven", 2 * 21 + 7, full.allSeen());
+        Check.due("20 all eight", 255, full.fewest());
     }
 
     private static void fewest() {
@@ -82,5 +87,6 @@ public final class SightTest {
         InTheGarden y = Check.garden("pp100;pp100;pp100;v10;v12;v30;v31;v20;");
         // {1, 3} (10) sees all; {2, 3} (12) as well.
         Check.due("20 the least of two", 0b1010, y.fewest());
+        Check.due("20 from the base", 0b0001, Check.garden("pp100;pp100;v01;v02;v10;v12;").fewest());
     }
 }
