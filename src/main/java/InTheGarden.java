@@ -1311,7 +1311,12 @@ public final class InTheGarden {
 
         /** Whether somebody hides or runs still. */
         private boolean isOpen() {
-            return howMany(HIDES) + howMany(RUNS) > 0;
+            for (int hider = 0; hider < hiders; hider++) {
+                if (state[hider] == HIDES || state[hider] == RUNS) {
+                    return true;
+                }
+            }
+            return false;
         }
 
         /**

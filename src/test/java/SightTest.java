@@ -65,6 +65,9 @@ public final class SightTest {
         Check.due("19 not one that can not", 15, x.allSeen());
         InTheGarden line = Check.garden("pp100;pp100;pp100;w12,3;w01,3;w23,3;w03,20;");
         Check.due("19 by a line", 9, line.allSeen());
+        // 2 first: 1, back 1 and 2, on 3.
+        Check.due("19 the near end first", 7, Check.garden("pp100;pp100;pp100;w02,1;w01,2;w13,3;").allSeen());
+        Check.due("19 one apart", 5, Check.garden("pp100;pp100;w01,5;").allSeen());
         InTheGarden full = Check.garden("pp100;pp100;pp100;pp100;pp100;pp100;pp100;",
                 "w01,1;w02,2;w03,3;w04,4;w05,5;w06,6;w07,7;");
         // Each twice but the last, which is the farthest.
