@@ -22,20 +22,6 @@ public final class RoundTest {
         Check.end("RoundTest");
     }
 
-    /** The document's DRAWS, told once more with longs. */
-    private static final class Draws {
-        private long z;
-
-        Draws(int seed) {
-            z = seed;
-        }
-
-        int below(int n) {
-            z = (z * 1664525L + 1013904223L) & 0xffffffffL;
-            return (int) ((z & 0x7fffffffL) / 256 % n);
-        }
-    }
-
     private static void ended(InTheGarden x, int hider, int where, int how, int when) {
         Check.due("15 where hid " + hider, where, x.of(hider, 0));
         Check.due("15 how ended " + hider, how, x.of(hider, 1));
