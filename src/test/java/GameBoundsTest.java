@@ -276,6 +276,13 @@ public final class GameBoundsTest {
         Check.due("25 above", -6, x.bestOrder(5, 5, 9, 9));
         Check.due("25 six", -6, x.bestOrder(4, 6, 9, 9));
         Check.due("25 none", -4, x.bestOrder(4, 0, 9, 9));
+        // A smaller k behind a greater one: what is left of the longer orders is not gone to.
+        InTheGarden few = Check.garden("pp100;pp100;pp100;pp100;w01,5;w02,5;w03,5;w04,5;", "h9,5;h9,5;h9,5;h9,5;");
+        few.set(2, 60);
+        for (int k : new int[] {4, 1, 4, 2, 4, 3}) {
+            Check.due("25 finds by " + k, k, few.bestOrder(k, 1, 0, -1));
+            Check.due("21 one round of " + k, 10 * k - 5, few.game(k, 1, 1, 0));
+        }
         InTheGarden nobody = Check.garden("pp100;pp100;w01,1;w02,1;");
         Check.due("25 nobody to find", 0, nobody.bestOrder(2, 5, 0, -1));
         Check.due("25 so the first order", 1, nobody.bestOrder(2, 5, 0, 0));

@@ -26,6 +26,7 @@ enum States {
     /** PLACES 4 and 5 can not be come to; HIDER 4 came behind the latest ROUND; something is everywhere. */
     private static InTheGarden middle() {
         InTheGarden x = Check.garden("pp250;pk190;pd105;ph330;w01,5;w12,9;w23,4;", "v01;v13;v31;v42;h9,5;h4,2;h12,9;h15,1;");
+        x.set(9, 0);
         x.times(2, 7);
         x.set(3, 2);
         x.image();
@@ -39,7 +40,6 @@ enum States {
         }
         Check.tell(x, "h7,7;");
         Check.feed(x, "v05;h9,5;");
-        x.set(9, 0);
         return x;
     }
 
@@ -47,6 +47,7 @@ enum States {
         InTheGarden x = Check.garden("pp150;pk250;ps350;pg450;pm550;pn650;ph750;",
                 "w01,1;w02,2;w03,3;w04,4;w05,5;w06,6;w07,7;", "w12,3;w13,1;w14,1;w15,1;w16,1;w17,60;w23,9;",
                 "h2,1;h15,9;h9,5;h9,5;h5,5;h6,6;h7,7;h8,8;");
+        x.image();
         int[] most = {99, 50, 60, 4, 1, 900, 9};
         for (int what = 0; what < 7; what++) {
             x.set(what, most[what]);
@@ -56,7 +57,6 @@ enum States {
         }
         x.order(8, 17654321);
         x.round(Integer.MIN_VALUE);
-        x.image();
         for (int i = 0; i < 8; i++) {
             x.row(Math.max(0, x.found(i)));
         }
