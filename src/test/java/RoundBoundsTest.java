@@ -22,6 +22,7 @@ public final class RoundBoundsTest {
         patienceAtItsEnds();
         freesAtOneSecond();
         freesNotByAFind();
+        foundAheadOfFree();
         timesAreHeld();
         nobodyThere();
         eightFound();
@@ -497,6 +498,34 @@ public final class RoundBoundsTest {
         Check.due("16 first", 0, x.found(0));
         Check.due("16 second", 2, x.found(1));
         Check.due("16 no third", -9, x.found(2));
+    }
+
+    /** At 10 she comes to 1 and looks, then 1 comes to THE BASE: as it is FREE, 0 hides no more. */
+    private static void foundAheadOfFree() {
+        InTheGarden x = Check.garden("pp100;pp100;w01,10;w02,10;h9,1;h9,5;");
+        x.order(1, 1);
+        Check.due("13 one found", 1, x.round(0));
+        ended("13 found", x, 0, 1, 0, 10);
+        ended("13 free", x, 1, 2, 1, 10);
+        x.set(4, 1);
+        Check.due("13 found first, then freed", 0, x.round(0));
+        ended("13 freed", x, 0, 1, 1, 10);
+        ended("13 free", x, 1, 2, 1, 10);
+        Check.due("14 both are free", 2, x.mind(0, 1));
+        Check.due("14 the last second", 10, x.mind(0, 3));
+        Check.due("16 it was found", 0, x.found(0));
+        Check.due("16 the other was not", -9, x.found(1));
+        // With 99 as its HIDDEN it is not FOUND by that look, so it hides as 1 is FREE: nobody is freed.
+        InTheGarden y = Check.garden("pp199;pp100;pp000;w01,10;w02,10;h9,1;h9,5;w03,10;h9,5;");
+        y.order(1, 1);
+        y.set(4, 1);
+        Check.due("13 the one without a place stays found", 1, y.round(Draws.seedOf(48, 0)));
+        ended("13 hides still", y, 0, 1, 2, 300);
+        ended("13 free", y, 1, 2, 1, 10);
+        ended("13 found at the base", y, 2, 0, 0, 0);
+        Check.due("13 and freed, if that look finds", 0, y.round(Draws.seedOf(49, 0)));
+        ended("13 freed from the place", y, 0, 1, 1, 10);
+        ended("13 freed from the base", y, 2, 0, 1, 10);
     }
 
     private static void timesAreHeld() {
